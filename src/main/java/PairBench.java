@@ -290,7 +290,7 @@ public final class PairBench {
         }
 
         long all(int side) {
-            return (1L << sizeOf(side)) - 1;
+            return isOneOfTwo(side) ? (1L << sizes[side]) - 1 : 0L;
         }
 
         long across(int side, int node) {

@@ -1,0 +1,154 @@
+import java.util.Random;
+
+/** Every answer about small graphs, held against all greatest pairings, covers and sets written out. */
+public final class SmallGraphTest {
+    private static final Check CHECK = new Check();
+
+    public static void main(String[] args) {
+        allGraphsOfThreeAndThree();
+        Random dice = new Random(20261115);
+        for (int round = 0; round < 2500; round++) {
+            int lefts = dice.nextInt(7);
+            int rights = dice.nextInt(7);
+            int thick = 1 + dice.nextInt(9);
+            boolean[][] edges = new boolean[lefts][rights];
+            for (int l = 0; l < lefts; l++) {
+                for (int r = 0; r < rights; r++) {
+                    edges[l][r] = dice.nextInt(10) < thick;
+                }
+            }
+            compare(edges, lefts, rights, dice);
+        }
+        CHECK.end("SmallGraphTest");
+    }
+
+    private static void allGraphsOfThreeAndThree() {
+        for (int code = 0; code < 512; code++) {
+            boolean[][] edges = new boolean[3][3];
+            for (int i = 0; i < 9; i++) {
+                edges[i / 3][i % 3] = (code >> i & 1) != 0;
+            }
+            compare(edges, 3, 3, new Random(code));
+        }
+    }
+
+    private static void compare(boolean[][] edges, int lefts, int rights, Random dice) {
+        PairBench bench = new PairBench();
+        detour(bench, dice);
+        Build.addNodes(bench, lefts, rights);
+        draw(bench, edges, lefts, rights, dice);
+        Brute brute = new Brute(edges, lefts, rights);
+        String name = "graph " + java.util.Arrays.deepToString(edges) + " ";
+        counts(bench, brute, name);
+        for (int side = 0; side <= 1; side++) {
+            nodes(bench, brute, name, side);
+        }
+        covers(bench, brute, name);
+        edges(bench, brute, name);
+        leads(bench, brute, name);
+    }
+
+    /** Another graph that is asked about and cleared: nothing of it may stay. */
+    private static void detour(PairBench bench, Random dice) {
+        if (dice.nextBoolean()) {
+            Build.addNodes(bench, 5, 6);
+            for (int i = 0; i < 9; i++) {
+                bench.edge(dice.nextInt(5), dice.nextInt(6), true);
+            }
+            bench.pairings();
+            CHECK.due("clearGraph", bench.clearGraph(), 11);
+        }
+    }
+
+    /** Draws some edges that are taken away again, with questions between. */
+    private static void draw(PairBench bench, boolean[][] edges, int lefts, int rights, Random dice) {
+        for (int l = 0; l < lefts; l++) {
+            for (int r = 0; r < rights; r++) {
+                if (edges[l][r] || dice.nextInt(4) == 0) {
+                    CHECK.due("edge new", bench.edge(l, r, true), 1);
+                }
+            }
+        }
+        bench.pairings();
+        for (int l = 0; l < lefts; l++) {
+            for (int r = 0; r < rights; r++) {
+                boolean extra = bench.has(l, r) && !edges[l][r];
+                CHECK.due("edge set", bench.edge(l, r, edges[l][r]), extra ? 1 : 0);
+            }
+        }
+    }
+
+    private static void counts(PairBench bench, Brute brute, String name) {
+        int[] parts = new int[3];
+        for (int l = 0; l < brute.lefts; l++) {
+            parts[brute.part(0, l)]++;
+        }
+        for (int r = 0; r < brute.rights; r++) {
+            parts[brute.part(1, r)]++;
+        }
+        int blocks = 0;
+        for (int number : brute.blocks()) {
+            blocks = Math.max(blocks, number + 1);
+        }
+        int[] want = {brute.lefts, brute.rights, brute.edgeCount(), brute.size(), brute.greatestLack(), parts[0],
+            parts[1], parts[2], blocks, 0, 0, 0};
+        for (int what = 0; what < want.length; what++) {
+            CHECK.due(name + "count(" + what + ")", bench.count(what), want[what]);
+        }
+        CHECK.due(name + "pairings()", bench.pairings(), brute.greatest.size());
+    }
+
+    private static void nodes(PairBench bench, Brute brute, String name, int side) {
+        int[] best = brute.best();
+        int[] blocks = brute.blocks();
+        int end = side == 0 ? brute.lefts : brute.rights;
+        for (int node = 0; node < end; node++) {
+            String of = "(" + side + ", " + node + ")";
+            CHECK.due(name + "partner" + of, bench.partner(side, node), brute.partner(best, side, node));
+            CHECK.due(name + "nodeIs" + of, bench.nodeIs(side, node), brute.nodeIs(side, node));
+            int part = brute.part(side, node);
+            CHECK.due(name + "part" + of, bench.part(side, node), part);
+            int left = side == 0 ? node : Brute.leftOf(best, node);
+            int block = part == 1 ? blocks[left] : PairBench.NO;
+            CHECK.due(name + "block" + of, bench.block(side, node), block);
+        }
+    }
+
+    private static void covers(PairBench bench, Brute brute, String name) {
+        for (int which = 0; which <= 1; which++) {
+            int[] cover = brute.cover(which);
+            int hall = brute.hall(which);
+            for (int l = 0; l < brute.lefts; l++) {
+                CHECK.due(name + "cover(" + which + ", 0, " + l + ")", bench.cover(which, 0, l), cover[0] >> l & 1);
+                CHECK.due(name + "hall(" + which + ", " + l + ")", bench.hall(which, l), hall >> l & 1);
+            }
+            for (int r = 0; r < brute.rights; r++) {
+                CHECK.due(name + "cover(" + which + ", 1, " + r + ")", bench.cover(which, 1, r), cover[1] >> r & 1);
+            }
+        }
+    }
+
+    private static void edges(PairBench bench, Brute brute, String name) {
+        for (int l = 0; l < brute.lefts; l++) {
+            for (int r = 0; r < brute.rights; r++) {
+                String of = "(" + l + ", " + r + ")";
+                CHECK.due(name + "has" + of, bench.has(l, r), brute.edges[l][r]);
+                CHECK.due(name + "edgeIs" + of, bench.edgeIs(l, r), brute.edgeIs(l, r));
+            }
+        }
+    }
+
+    private static void leads(PairBench bench, Brute brute, String name) {
+        int[] blocks = brute.blocks();
+        boolean[][] come = brute.steps();
+        for (int l = 0; l < brute.lefts; l++) {
+            for (int k = 0; k < brute.lefts; k++) {
+                if (blocks[l] >= 0 && blocks[k] >= 0) {
+                    boolean want = blocks[l] != blocks[k] && come[l][k];
+                    String call = name + "leads(" + blocks[l] + ", " + blocks[k] + ")";
+                    CHECK.due(call, bench.leads(blocks[l], blocks[k]), want ? 1 : 0);
+                }
+            }
+        }
+    }
+}
