@@ -113,6 +113,13 @@ public final class GraphPromisesTest {
             CHECK.due("node(" + side + ")", empty.node(side), BAD);
         }
         CHECK.due("no node by a wrong side", empty.clearGraph(), 0);
+        PairBench grown = Build.graph(1, 1, 0, 0);
+        CHECK.due("all in part 1", grown.count(6), 2);
+        grown.node(0);
+        CHECK.due("a left node more is in part 0", grown.part(0, 1), 0);
+        grown.node(1);
+        CHECK.due("a right node more is in part 2", grown.part(1, 1), 2);
+        CHECK.due("it lacks a partner", grown.count(4), 1);
     }
 
     private static void promise3Edge() {

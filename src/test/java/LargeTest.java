@@ -23,7 +23,28 @@ public final class LargeTest {
         for (int round = 0; round < 60; round++) {
             order(20 + dice.nextInt(21), dice.nextInt(120), dice);
         }
+        longestPath();
         CHECK.end("LargeTest");
+    }
+
+    /** The last left node gets its one partner only when all others go on to their second ones. */
+    private static void longestPath() {
+        PairBench bench = Build.nodes(50, 50);
+        for (int l = 0; l < 49; l++) {
+            bench.edge(l, l, true);
+            bench.edge(l, l + 1, true);
+        }
+        CHECK.due("SIZE before the last edge", bench.count(3), 49);
+        CHECK.due("partner of 48 before", bench.partner(0, 48), 48);
+        bench.edge(49, 0, true);
+        CHECK.due("SIZE after it", bench.count(3), 50);
+        for (int l = 0; l < 50; l++) {
+            CHECK.due("partner(0, " + l + ")", bench.partner(0, l), l == 49 ? 0 : l + 1);
+            CHECK.due("edgeIs(" + l + ")", bench.edgeIs(l, l == 49 ? 0 : l + 1), 2);
+        }
+        CHECK.due("all are lone pairs", bench.count(8), 50);
+        CHECK.due("48 leads over all others to 49", bench.leads(48, 49), 1);
+        CHECK.due("49 leads to none", bench.leads(49, 48), 0);
     }
 
     private static boolean[][] chance(int lefts, int rights, int tries, Random dice) {

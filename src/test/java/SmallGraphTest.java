@@ -19,7 +19,34 @@ public final class SmallGraphTest {
             }
             compare(edges, lefts, rights, dice);
         }
+        for (int round = 0; round < 100; round++) {
+            walk(dice);
+        }
         CHECK.end("SmallGraphTest");
+    }
+
+    /** Changes one after the other on one object, all answers asked for after each. */
+    private static void walk(Random dice) {
+        PairBench bench = new PairBench();
+        boolean[][] edges = new boolean[5][5];
+        int[] sizes = new int[2];
+        for (int step = 0; step < 40; step++) {
+            int side = dice.nextInt(2);
+            if (dice.nextInt(30) == 0) {
+                CHECK.due("walk clearGraph", bench.clearGraph(), sizes[0] + sizes[1]);
+                edges = new boolean[5][5];
+                sizes = new int[2];
+            } else if (sizes[side] < 5 && dice.nextInt(4) == 0) {
+                CHECK.due("walk node", bench.node(side), sizes[side]);
+                sizes[side]++;
+            } else if (sizes[0] > 0 && sizes[1] > 0) {
+                int l = dice.nextInt(sizes[0]);
+                int r = dice.nextInt(sizes[1]);
+                edges[l][r] = dice.nextInt(3) > 0;
+                bench.edge(l, r, edges[l][r]);
+            }
+            compareAll(bench, edges, sizes[0], sizes[1]);
+        }
     }
 
     private static void allGraphsOfThreeAndThree() {
@@ -37,6 +64,10 @@ public final class SmallGraphTest {
         detour(bench, dice);
         Build.addNodes(bench, lefts, rights);
         draw(bench, edges, lefts, rights, dice);
+        compareAll(bench, edges, lefts, rights);
+    }
+
+    private static void compareAll(PairBench bench, boolean[][] edges, int lefts, int rights) {
         Brute brute = new Brute(edges, lefts, rights);
         String name = "graph " + java.util.Arrays.deepToString(edges) + " ";
         counts(bench, brute, name);

@@ -18,7 +18,42 @@ public final class SmallOrderTest {
             int count = dice.nextInt(8);
             compare(bench, grow(bench, count, dice.nextInt(16), dice));
         }
+        for (int round = 0; round < 100; round++) {
+            walk(dice);
+        }
         CHECK.end("SmallOrderTest");
+    }
+
+    /** Changes one after the other on one object, all answers asked for after each. */
+    private static void walk(Random dice) {
+        PairBench bench = new PairBench();
+        boolean[][] below = new boolean[0][0];
+        for (int step = 0; step < 30; step++) {
+            int count = below.length;
+            if (dice.nextInt(30) == 0) {
+                CHECK.due("walk clearThings", bench.clearThings(), count);
+                below = new boolean[0][0];
+            } else if (count < 6 && dice.nextInt(3) == 0) {
+                CHECK.due("walk thing", bench.thing(), count);
+                boolean[][] more = new boolean[count + 1][count + 1];
+                for (int a = 0; a < count; a++) {
+                    System.arraycopy(below[a], 0, more[a], 0, count);
+                }
+                below = more;
+            } else if (count > 0) {
+                tell(bench, below, dice.nextInt(count), dice.nextInt(count));
+            }
+            compare(bench, below);
+        }
+    }
+
+    private static void tell(PairBench bench, boolean[][] below, int a, int b) {
+        int want = a == b || below[b][a] ? PairBench.NO : below[a][b] ? 0 : 1;
+        CHECK.due(Arrays.deepToString(below) + " tell(" + a + ", " + b + ")", bench.tell(a, b), want);
+        if (want == 1) {
+            below[a][b] = true;
+            Brute.closed(below);
+        }
     }
 
     /** Makes things and tells of them by chance; what is below what is followed up here in its own way. */
@@ -29,13 +64,7 @@ public final class SmallOrderTest {
         }
         for (int i = 0; i < tells && count > 0; i++) {
             int a = dice.nextInt(count);
-            int b = dice.nextInt(count);
-            int want = a == b || below[b][a] ? PairBench.NO : below[a][b] ? 0 : 1;
-            CHECK.due(Arrays.deepToString(below) + " tell(" + a + ", " + b + ")", bench.tell(a, b), want);
-            if (want == 1) {
-                below[a][b] = true;
-                Brute.closed(below);
-            }
+            tell(bench, below, a, dice.nextInt(count));
             if (dice.nextInt(4) == 0) {
                 bench.about(a, dice.nextInt(5));
             }

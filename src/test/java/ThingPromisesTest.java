@@ -39,6 +39,11 @@ public final class ThingPromisesTest {
         CHECK.due("things", bench.count(9), 40);
         CHECK.due("width", bench.count(10), 40);
         CHECK.due("no nodes by things", bench.count(0) + bench.count(1), 0);
+        PairBench grown = Build.things(2, 0, 1);
+        CHECK.due("one chain", grown.count(10), 1);
+        CHECK.due("a thing more", grown.thing(), 2);
+        CHECK.due("two chains", grown.count(10), 2);
+        CHECK.due("it begins one", grown.about(2, 0), 1);
         CHECK.due("tell(39, 0)", bench.tell(39, 0), 1);
         CHECK.due("below(39, 0)", bench.below(39, 0), true);
     }
