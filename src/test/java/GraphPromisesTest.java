@@ -28,13 +28,6 @@ public final class GraphPromisesTest {
         CHECK.end("GraphPromisesTest");
     }
 
-    private static void row(String call, int[] got, int... want) {
-        CHECK.due(call + " length", got.length, want.length);
-        for (int i = 0; i < want.length; i++) {
-            CHECK.due(call + " of " + i, got[i], want[i]);
-        }
-    }
-
     private static int[] partners(PairBench bench, int side) {
         int[] row = new int[bench.count(side)];
         for (int i = 0; i < row.length; i++) {
@@ -73,11 +66,6 @@ public final class GraphPromisesTest {
             row[i] = bench.hall(which, i);
         }
         return row;
-    }
-
-    /** Part 0 is left 0, 1 and right 0; part 1 left 2 to 4 and right 1 to 3; part 2 left 5 and right 4, 5. */
-    private static PairBench threeParts() {
-        return Build.graph(6, 6, 0, 0, 1, 0, 2, 0, 2, 1, 2, 2, 3, 1, 3, 2, 4, 2, 4, 3, 5, 3, 5, 4, 5, 5);
     }
 
     private static void promise1NewObject() {
@@ -148,7 +136,7 @@ public final class GraphPromisesTest {
     }
 
     private static void promise4Count() {
-        PairBench bench = threeParts();
+        PairBench bench = Build.threeParts();
         bench.node(0);
         bench.thing();
         bench.thing();
@@ -193,16 +181,16 @@ public final class GraphPromisesTest {
 
     private static void promise6Partner() {
         PairBench bench = Build.graph(3, 3, 0, 0, 0, 1, 1, 0, 2, 1, 2, 2);
-        row("partner left", partners(bench, 0), 1, 0, 2);
-        row("partner right", partners(bench, 1), 1, 0, 2);
+        CHECK.row("partner left", partners(bench, 0), 1, 0, 2);
+        CHECK.row("partner right", partners(bench, 1), 1, 0, 2);
         PairBench crowd = Build.graph(3, 1, 2, 0, 1, 0);
-        row("crowd left", partners(crowd, 0), NO, 0, NO);
-        row("crowd right", partners(crowd, 1), 1);
+        CHECK.row("crowd left", partners(crowd, 0), NO, 0, NO);
+        CHECK.row("crowd right", partners(crowd, 1), 1);
         bench.edge(1, 1, true);
-        row("partner after a change", partners(bench, 0), 0, 1, 2);
+        CHECK.row("partner after a change", partners(bench, 0), 0, 1, 2);
         bench.edge(0, 0, false);
         bench.edge(0, 1, false);
-        row("partner after edges went", partners(bench, 0), NO, 0, 1);
+        CHECK.row("partner after edges went", partners(bench, 0), NO, 0, 1);
         CHECK.due("partner(2, 0)", bench.partner(2, 0), BAD);
         CHECK.due("partner(0, 3)", bench.partner(0, 3), BAD);
         CHECK.due("partner(1, 3)", bench.partner(1, 3), BAD);
@@ -211,19 +199,19 @@ public final class GraphPromisesTest {
     /** A lesser partner of left 0 is better, even where left 1 goes without one for it. */
     private static void promise6BestBeforeLaterNodes() {
         PairBench bench = Build.graph(3, 2, 0, 0, 0, 1, 1, 0, 2, 1);
-        row("left 0 takes the lesser", partners(bench, 0), 0, NO, 1);
+        CHECK.row("left 0 takes the lesser", partners(bench, 0), 0, NO, 1);
         PairBench loose = Build.graph(2, 3, 0, 1, 0, 2, 1, 1);
-        row("but the pairing stays greatest", partners(loose, 0), 2, 1);
-        row("right 0 goes without", partners(loose, 1), NO, 1, 0);
+        CHECK.row("but the pairing stays greatest", partners(loose, 0), 2, 1);
+        CHECK.row("right 0 goes without", partners(loose, 1), NO, 1, 0);
         PairBench late = Build.graph(3, 2, 0, 0, 1, 0, 1, 1, 2, 1);
-        row("one with a partner is better", partners(late, 0), 0, 1, NO);
+        CHECK.row("one with a partner is better", partners(late, 0), 0, 1, NO);
         // Pairing left 0 with right 0 sends three others along: 1 to 1, 2 to 2, 3 to 3.
         PairBench ring = Build.graph(4, 4, 0, 3, 1, 0, 2, 1, 3, 2, 0, 0, 1, 1, 2, 2, 3, 3);
-        row("round a ring", partners(ring, 0), 0, 1, 2, 3);
+        CHECK.row("round a ring", partners(ring, 0), 0, 1, 2, 3);
     }
 
     private static void promise7EdgeIs() {
-        PairBench bench = threeParts();
+        PairBench bench = Build.threeParts();
         CHECK.due("part 0", bench.edgeIs(0, 0), 1);
         CHECK.due("part 0, other", bench.edgeIs(1, 0), 1);
         CHECK.due("between parts 1 and 0", bench.edgeIs(2, 0), 0);
@@ -242,7 +230,7 @@ public final class GraphPromisesTest {
     }
 
     private static void promise8NodeIs() {
-        PairBench bench = threeParts();
+        PairBench bench = Build.threeParts();
         for (int i = 0; i < 6; i++) {
             CHECK.due("nodeIs(0, " + i + ")", bench.nodeIs(0, i), i < 2 ? 0 : 1);
             CHECK.due("nodeIs(1, " + i + ")", bench.nodeIs(1, i), i > 3 ? 0 : 1);
@@ -254,11 +242,11 @@ public final class GraphPromisesTest {
     }
 
     private static void promise9Cover() {
-        PairBench bench = threeParts();
-        row("cover 0 left", cover(bench, 0, 0), 0, 0, 1, 1, 1, 1);
-        row("cover 0 right", cover(bench, 0, 1), 1, 0, 0, 0, 0, 0);
-        row("cover 1 left", cover(bench, 1, 0), 0, 0, 0, 0, 0, 1);
-        row("cover 1 right", cover(bench, 1, 1), 1, 1, 1, 1, 0, 0);
+        PairBench bench = Build.threeParts();
+        CHECK.row("cover 0 left", cover(bench, 0, 0), 0, 0, 1, 1, 1, 1);
+        CHECK.row("cover 0 right", cover(bench, 0, 1), 1, 0, 0, 0, 0, 0);
+        CHECK.row("cover 1 left", cover(bench, 1, 0), 0, 0, 0, 0, 0, 1);
+        CHECK.row("cover 1 right", cover(bench, 1, 1), 1, 1, 1, 1, 0, 0);
         CHECK.due("cover(2, 0, 0)", bench.cover(2, 0, 0), BAD);
         CHECK.due("cover(-1, 0, 0)", bench.cover(-1, 0, 0), BAD);
         CHECK.due("cover(0, 2, 0)", bench.cover(0, 2, 0), BAD);
@@ -268,12 +256,12 @@ public final class GraphPromisesTest {
     }
 
     private static void promise10Hall() {
-        PairBench bench = threeParts();
-        row("hall 0", hall(bench, 0), 1, 1, 0, 0, 0, 0);
-        row("hall 1", hall(bench, 1), 1, 1, 1, 1, 1, 0);
+        PairBench bench = Build.threeParts();
+        CHECK.row("hall 0", hall(bench, 0), 1, 1, 0, 0, 0, 0);
+        CHECK.row("hall 1", hall(bench, 1), 1, 1, 1, 1, 1, 0);
         PairBench even = Build.graph(2, 2, 0, 0, 1, 1);
-        row("hall 0 is empty", hall(even, 0), 0, 0);
-        row("hall 1 lacks nothing", hall(even, 1), 1, 1);
+        CHECK.row("hall 0 is empty", hall(even, 0), 0, 0);
+        CHECK.row("hall 1 lacks nothing", hall(even, 1), 1, 1);
         CHECK.due("hall(2, 0)", bench.hall(2, 0), BAD);
         CHECK.due("hall(-1, 0)", bench.hall(-1, 0), BAD);
         CHECK.due("hall(0, 6)", bench.hall(0, 6), BAD);
@@ -281,28 +269,28 @@ public final class GraphPromisesTest {
     }
 
     private static void promise11Part() {
-        PairBench bench = threeParts();
-        row("part left", parts(bench, 0), 0, 0, 1, 1, 1, 2);
-        row("part right", parts(bench, 1), 0, 1, 1, 1, 2, 2);
+        PairBench bench = Build.threeParts();
+        CHECK.row("part left", parts(bench, 0), 0, 0, 1, 1, 1, 2);
+        CHECK.row("part right", parts(bench, 1), 0, 1, 1, 1, 2, 2);
         PairBench lonely = Build.nodes(1, 1);
-        row("alone left", parts(lonely, 0), 0);
-        row("alone right", parts(lonely, 1), 2);
+        CHECK.row("alone left", parts(lonely, 0), 0);
+        CHECK.row("alone right", parts(lonely, 1), 2);
         bench.edge(1, 5, true);
-        row("part left after a change", parts(bench, 0), 1, 1, 1, 1, 1, 1);
-        row("part right after a change", parts(bench, 1), 1, 1, 1, 1, 1, 1);
+        CHECK.row("part left after a change", parts(bench, 0), 1, 1, 1, 1, 1, 1);
+        CHECK.row("part right after a change", parts(bench, 1), 1, 1, 1, 1, 1, 1);
         CHECK.due("part(2, 0)", bench.part(2, 0), BAD);
         CHECK.due("part(0, 6)", bench.part(0, 6), BAD);
         CHECK.due("part(1, -1)", bench.part(1, -1), BAD);
     }
 
     private static void promise12Block() {
-        PairBench bench = threeParts();
-        row("block left", blocks(bench, 0), NO, NO, 0, 0, 1, NO);
-        row("block right", blocks(bench, 1), NO, 0, 0, 1, NO, NO);
+        PairBench bench = Build.threeParts();
+        CHECK.row("block left", blocks(bench, 0), NO, NO, 0, 0, 1, NO);
+        CHECK.row("block right", blocks(bench, 1), NO, 0, 0, 1, NO, NO);
         // Blocks by least left nodes: 0 with 3, 1 alone, 2 with 4.
         PairBench mixed = Build.graph(5, 5, 0, 4, 3, 4, 0, 1, 3, 1, 1, 3, 2, 0, 2, 2, 4, 0, 4, 2, 4, 3);
-        row("mixed left", blocks(mixed, 0), 0, 1, 2, 0, 2);
-        row("mixed right", blocks(mixed, 1), 2, 0, 2, 1, 0);
+        CHECK.row("mixed left", blocks(mixed, 0), 0, 1, 2, 0, 2);
+        CHECK.row("mixed right", blocks(mixed, 1), 2, 0, 2, 1, 0);
         CHECK.due("block(2, 2)", bench.block(2, 2), BAD);
         CHECK.due("block(0, 6)", bench.block(0, 6), BAD);
         CHECK.due("block(1, 6)", bench.block(1, 6), BAD);
@@ -333,7 +321,7 @@ public final class GraphPromisesTest {
     private static void promise14Pairings() {
         CHECK.due("no nodes", new PairBench().pairings(), 1);
         CHECK.due("no edges", Build.nodes(4, 2).pairings(), 1);
-        CHECK.due("three parts", threeParts().pairings(), 2 * 2 * 2);
+        CHECK.due("three parts", Build.threeParts().pairings(), 2 * 2 * 2);
         PairBench square = Build.graph(2, 2, 0, 0, 0, 1, 1, 0, 1, 1);
         CHECK.due("square", square.pairings(), 2);
         square.node(0);
@@ -346,25 +334,15 @@ public final class GraphPromisesTest {
         CHECK.due("back again", square.pairings(), 4);
     }
 
-    private static PairBench complete(int lefts, int rights) {
-        PairBench bench = Build.nodes(lefts, rights);
-        for (int l = 0; l < lefts; l++) {
-            for (int r = 0; r < rights; r++) {
-                bench.edge(l, r, true);
-            }
-        }
-        return bench;
-    }
-
     private static void promise14PairingsAtTheLimit() {
-        PairBench full = complete(16, 16);
+        PairBench full = Build.complete(16, 16);
         CHECK.due("16 and 16", full.pairings(), 20922789888000L);
         full.edge(15, 15, false);
         CHECK.due("16 and 16 less an edge", full.pairings(), 20922789888000L - 1307674368000L);
         full.node(0);
         CHECK.due("17 left nodes", full.pairings(), NO);
-        CHECK.due("16 and 9", complete(16, 9).pairings(), 4151347200L);
-        CHECK.due("9 and 16", complete(9, 16).pairings(), 4151347200L);
+        CHECK.due("16 and 9", Build.complete(16, 9).pairings(), 4151347200L);
+        CHECK.due("9 and 16", Build.complete(9, 16).pairings(), 4151347200L);
         CHECK.due("16 and 0", Build.nodes(16, 0).pairings(), 1);
         CHECK.due("0 and 17", Build.nodes(0, 17).pairings(), NO);
         CHECK.due("17 and 0", Build.nodes(17, 0).pairings(), NO);
@@ -373,7 +351,7 @@ public final class GraphPromisesTest {
     }
 
     private static void promise19ClearGraph() {
-        PairBench bench = threeParts();
+        PairBench bench = Build.threeParts();
         bench.node(0);
         bench.thing();
         bench.thing();
@@ -397,7 +375,7 @@ public final class GraphPromisesTest {
     }
 
     private static void wrongNodesEverywhere() {
-        PairBench bench = threeParts();
+        PairBench bench = Build.threeParts();
         for (int far : FAR) {
             for (int side = 0; side <= 1; side++) {
                 CHECK.due("partner " + far, bench.partner(side, far), BAD);

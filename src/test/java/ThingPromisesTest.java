@@ -24,11 +24,6 @@ public final class ThingPromisesTest {
         }
     }
 
-    /** 3 below 1 below 0, 3 below 4 below 0, 2 apart. */
-    private static PairBench diamond() {
-        return Build.things(5, 3, 1, 1, 0, 3, 4, 4, 0);
-    }
-
     private static void promise15Thing() {
         PairBench bench = new PairBench();
         for (int i = 0; i < 40; i++) {
@@ -84,7 +79,7 @@ public final class ThingPromisesTest {
     }
 
     private static void promise18About() {
-        PairBench bench = diamond();
+        PairBench bench = Build.diamond();
         CHECK.due("width", bench.count(10), 3);
         CHECK.due("levels", bench.count(11), 3);
         about("diamond chain", bench, 0, 1, 1, 0, 1, 2);
@@ -107,7 +102,7 @@ public final class ThingPromisesTest {
     }
 
     private static void promise18AboutAntichains() {
-        PairBench bench = diamond();
+        PairBench bench = Build.diamond();
         about("diamond antichain 0", bench, 3, 0, 1, 1, 0, 1);
         about("diamond antichain 1", bench, 4, 0, 1, 1, 0, 1);
         // Two apart chains of two: the low ones and the high ones.
@@ -139,7 +134,7 @@ public final class ThingPromisesTest {
     }
 
     private static void promise20ClearThings() {
-        PairBench bench = diamond();
+        PairBench bench = Build.diamond();
         bench.node(0);
         bench.node(1);
         bench.edge(0, 0, true);
@@ -165,7 +160,7 @@ public final class ThingPromisesTest {
     }
 
     private static void wrongThingsEverywhere() {
-        PairBench bench = diamond();
+        PairBench bench = Build.diamond();
         for (int far : FAR) {
             CHECK.due("tell lower " + far, bench.tell(far, 0), BAD);
             CHECK.due("tell upper " + far, bench.tell(0, far), BAD);
