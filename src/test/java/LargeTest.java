@@ -15,8 +15,11 @@ public final class LargeTest {
         for (int round = 0; round < 20; round++) {
             graph(50, 50, 60 + 10 * round, dice);
         }
-        graph(50, 50, 20000, dice);
-        graph(50, 49, 20000, dice);
+        graph(50, 50, 370, dice);
+        // As many edges as there can be among the 512 calls, every node joined to every other.
+        graph(20, 20, 20000, dice);
+        graph(50, 7, 20000, dice);
+        graph(7, 50, 20000, dice);
         for (int round = 0; round < 200; round++) {
             pairings(1 + dice.nextInt(16), 1 + dice.nextInt(16), dice.nextInt(45), dice);
         }
@@ -55,8 +58,9 @@ public final class LargeTest {
         return edges;
     }
 
-    private static PairBench bench(boolean[][] edges, int lefts, int rights) {
-        PairBench bench = Build.nodes(lefts, rights);
+    private static Relay bench(boolean[][] edges, int lefts, int rights) {
+        Relay bench = new Relay();
+        bench.addNodes(lefts, rights);
         for (int l = 0; l < lefts; l++) {
             for (int r = 0; r < rights; r++) {
                 if (edges[l][r]) {
@@ -69,60 +73,68 @@ public final class LargeTest {
 
     private static void graph(int lefts, int rights, int tries, Random dice) {
         boolean[][] edges = chance(lefts, rights, tries, dice);
-        PairBench bench = bench(edges, lefts, rights);
+        Relay bench = bench(edges, lefts, rights);
         Slow slow = new Slow(edges, lefts, rights);
         String name = lefts + " and " + rights + ", " + tries + ": ";
         int size = slow.size();
-        CHECK.due(name + "SIZE", bench.count(3), size);
-        CHECK.due(name + "LACK", bench.count(4), lefts - size);
+        CHECK.due(name + "SIZE", bench.ask().count(3), size);
+        CHECK.due(name + "LACK", bench.ask().count(4), lefts - size);
         int[] best = slow.best();
         for (int l = 0; l < lefts; l++) {
-            CHECK.due(name + "partner(0, " + l + ")", bench.partner(0, l), best[l]);
-            CHECK.due(name + "nodeIs(0, " + l + ")", bench.nodeIs(0, l), slow.sizeWithout(0, l) < size ? 1 : 0);
+            CHECK.due(name + "partner(0, " + l + ")", bench.ask().partner(0, l), best[l]);
+            CHECK.due(name + "nodeIs(0, " + l + ")", bench.ask().nodeIs(0, l), slow.sizeWithout(0, l) < size ? 1 : 0);
         }
         for (int r = 0; r < rights; r++) {
-            CHECK.due(name + "partner(1, " + r + ")", bench.partner(1, r), Brute.leftOf(best, r));
-            CHECK.due(name + "nodeIs(1, " + r + ")", bench.nodeIs(1, r), slow.sizeWithout(1, r) < size ? 1 : 0);
+            CHECK.due(name + "partner(1, " + r + ")", bench.ask().partner(1, r), Brute.leftOf(best, r));
+            CHECK.due(name + "nodeIs(1, " + r + ")", bench.ask().nodeIs(1, r), slow.sizeWithout(1, r) < size ? 1 : 0);
         }
         for (int i = 0; i < 60; i++) {
             int l = dice.nextInt(lefts);
             int r = dice.nextInt(rights);
             int want = edges[l][r] ? slow.edgeIs(l, r, size) : PairBench.BAD;
-            CHECK.due(name + "edgeIs(" + l + ", " + r + ")", bench.edgeIs(l, r), want);
+            CHECK.due(name + "edgeIs(" + l + ", " + r + ")", bench.ask().edgeIs(l, r), want);
         }
-        covers(name, bench, edges, size);
+        for (int which = 0; which <= 1; which++) {
+            cover(name, bench, which, edges, size);
+            hall(name, bench, which, edges, size);
+        }
         blocks(name, bench, edges, best);
     }
 
-    /** Both covers have as many nodes as the pairing has pairs and a node of each edge; both halls the same lack. */
-    private static void covers(String name, PairBench bench, boolean[][] edges, int size) {
-        int lefts = edges.length;
-        int rights = edges[0].length;
-        for (int which = 0; which <= 1; which++) {
-            int nodes = 0;
-            int bare = 0;
-            int members = 0;
-            boolean[] met = new boolean[rights];
-            for (int l = 0; l < lefts; l++) {
-                nodes += bench.cover(which, 0, l);
-                members += bench.hall(which, l);
-                for (int r = 0; r < rights; r++) {
-                    bare += edges[l][r] && bench.cover(which, 0, l) + bench.cover(which, 1, r) == 0 ? 1 : 0;
-                    met[r] |= edges[l][r] && bench.hall(which, l) == 1;
-                }
-            }
-            int partners = 0;
-            for (int r = 0; r < rights; r++) {
-                nodes += bench.cover(which, 1, r);
-                partners += met[r] ? 1 : 0;
-            }
-            CHECK.due(name + "nodes of cover " + which, nodes, size);
-            CHECK.due(name + "edges without cover " + which, bare, 0);
-            CHECK.due(name + "lack of hall " + which, members - partners, lefts - size);
-        }
+    private static int sum(int[] row) {
+        return Arrays.stream(row).sum();
     }
 
-    private static void blocks(String name, PairBench bench, boolean[][] edges, int[] best) {
+    /** A cover has as many nodes as the pairing has pairs, and a node of each edge. */
+    private static void cover(String name, Relay bench, int which, boolean[][] edges, int size) {
+        int[] left = new int[edges.length];
+        int[] right = new int[edges[0].length];
+        Arrays.setAll(left, l -> bench.ask().cover(which, 0, l));
+        Arrays.setAll(right, r -> bench.ask().cover(which, 1, r));
+        int bare = 0;
+        for (int l = 0; l < left.length; l++) {
+            for (int r = 0; r < right.length; r++) {
+                bare += edges[l][r] && left[l] + right[r] == 0 ? 1 : 0;
+            }
+        }
+        CHECK.due(name + "nodes of cover " + which, sum(left) + sum(right), size);
+        CHECK.due(name + "edges without cover " + which, bare, 0);
+    }
+
+    /** A hall lacks as many partners as left nodes go without one. */
+    private static void hall(String name, Relay bench, int which, boolean[][] edges, int size) {
+        int[] members = new int[edges.length];
+        int[] met = new int[edges[0].length];
+        Arrays.setAll(members, l -> bench.ask().hall(which, l));
+        for (int l = 0; l < members.length; l++) {
+            for (int r = 0; r < met.length; r++) {
+                met[r] |= edges[l][r] ? members[l] : 0;
+            }
+        }
+        CHECK.due(name + "lack of hall " + which, sum(members) - sum(met), members.length - size);
+    }
+
+    private static void blocks(String name, Relay bench, boolean[][] edges, int[] best) {
         int lefts = edges.length;
         boolean[][] come = new boolean[lefts][lefts];
         for (int l = 0; l < lefts; l++) {
@@ -131,30 +143,38 @@ public final class LargeTest {
             }
         }
         Brute.closed(come);
+        int[] blocks = new int[lefts];
         int seen = 0;
         for (int l = 0; l < lefts; l++) {
-            int block = bench.block(0, l);
-            if (bench.part(0, l) != 1) {
-                CHECK.due(name + "block outside part 1", block, PairBench.NO);
-                continue;
+            boolean inner = bench.ask().part(0, l) == 1;
+            blocks[l] = bench.ask().block(0, l);
+            CHECK.due(name + "block in part 1 alone", blocks[l] != PairBench.NO, inner);
+            if (inner) {
+                CHECK.due(name + "block of the partner", bench.ask().block(1, best[l]), blocks[l]);
+                CHECK.due(name + "blocks in order", blocks[l] <= seen, true);
+                seen = Math.max(seen, blocks[l] + 1);
             }
-            CHECK.due(name + "block of the partner", bench.block(1, best[l]), block);
-            CHECK.due(name + "blocks in order", block <= seen, true);
-            seen = Math.max(seen, block + 1);
-            for (int k = 0; k < lefts; k++) {
-                if (bench.part(0, k) == 1) {
+        }
+        CHECK.due(name + "blocks", bench.ask().count(8), seen);
+        leads(name, bench, blocks, come);
+    }
+
+    private static void leads(String name, Relay bench, int[] blocks, boolean[][] come) {
+        for (int l = 0; l < blocks.length; l++) {
+            for (int k = 0; k < blocks.length; k++) {
+                if (blocks[l] >= 0 && blocks[k] >= 0) {
                     boolean same = come[l][k] && come[k][l];
-                    CHECK.due(name + "same block", block == bench.block(0, k), same);
-                    CHECK.due(name + "leads", bench.leads(block, bench.block(0, k)), come[l][k] && !same ? 1 : 0);
+                    CHECK.due(name + "same block", blocks[l] == blocks[k], same);
+                    int want = come[l][k] && !same ? 1 : 0;
+                    CHECK.due(name + "leads", bench.ask().leads(blocks[l], blocks[k]), want);
                 }
             }
         }
-        CHECK.due(name + "blocks", bench.count(8), seen);
     }
 
     private static void pairings(int lefts, int rights, int tries, Random dice) {
         boolean[][] edges = chance(lefts, rights, tries, dice);
-        PairBench bench = bench(edges, lefts, rights);
+        Relay bench = bench(edges, lefts, rights);
         Map<Integer, Long> ways = new HashMap<>();
         ways.put(0, 1L);
         for (int l = 0; l < lefts; l++) {
@@ -176,44 +196,50 @@ public final class LargeTest {
         for (Map.Entry<Integer, Long> entry : ways.entrySet()) {
             sum += Integer.bitCount(entry.getKey()) == most ? entry.getValue() : 0;
         }
-        CHECK.due(Arrays.deepToString(edges) + " pairings()", bench.pairings(), sum);
+        CHECK.due(Arrays.deepToString(edges) + " pairings()", bench.ask().pairings(), sum);
     }
 
     private static void order(int count, int tells, Random dice) {
-        PairBench bench = Build.things(count);
+        Relay bench = new Relay();
+        for (int i = 0; i < count; i++) {
+            bench.change(PairBench::thing);
+        }
         boolean[][] below = new boolean[count][count];
         for (int i = 0; i < tells; i++) {
             int a = dice.nextInt(count);
             int b = dice.nextInt(count);
-            if (bench.tell(a, b) == 1) {
-                below[a][b] = true;
-            }
+            below[a][b] |= bench.tell(a, b) == 1;
         }
         Brute.closed(below);
         Slow slow = new Slow(below, count, count);
         int width = count - slow.size();
         String name = count + " things, " + tells + ": ";
-        CHECK.due(name + "width", bench.count(10), width);
+        CHECK.due(name + "width", bench.ask().count(10), width);
+        int[][] about = new int[5][count];
+        for (int what = 0; what < 5; what++) {
+            int asked = what;
+            Arrays.setAll(about[what], thing -> bench.ask().about(thing, asked));
+        }
         int[] best = slow.best();
-        int chains = 0;
-        int[] members = new int[2];
+        CHECK.row(name + "next", about[1], best);
         for (int a = 0; a < count; a++) {
-            CHECK.due(name + "next", bench.about(a, 1), best[a]);
-            chains = Math.max(chains, bench.about(a, 0) + 1);
-            int next = best[a];
-            CHECK.due(name + "chain of next", bench.about(next >= 0 ? next : a, 0), bench.about(a, 0));
-            members[0] += bench.about(a, 3);
-            members[1] += bench.about(a, 4);
-            for (int b = 0; b < count; b++) {
-                CHECK.due(name + "below", bench.below(a, b), below[a][b]);
-                boolean low = bench.about(a, 3) == 1 && bench.about(b, 3) == 1;
-                boolean high = bench.about(a, 4) == 1 && bench.about(b, 4) == 1;
+            CHECK.due(name + "chain of next", about[0][best[a] >= 0 ? best[a] : a], about[0][a]);
+        }
+        CHECK.due(name + "chains", Arrays.stream(about[0]).max().getAsInt() + 1, width);
+        CHECK.due(name + "antichain 0", sum(about[3]), width);
+        CHECK.due(name + "antichain 1", sum(about[4]), width);
+        twoByTwo(name, bench, below, about);
+    }
+
+    private static void twoByTwo(String name, Relay bench, boolean[][] below, int[][] about) {
+        for (int a = 0; a < below.length; a++) {
+            for (int b = 0; b < below.length; b++) {
+                CHECK.due(name + "below", bench.ask().below(a, b), below[a][b]);
+                boolean low = about[3][a] + about[3][b] == 2;
+                boolean high = about[4][a] + about[4][b] == 2;
                 CHECK.due(name + "two of an antichain", (low || high) && below[a][b], false);
-                CHECK.due(name + "levels rise", !below[a][b] || bench.about(a, 2) < bench.about(b, 2), true);
+                CHECK.due(name + "levels rise", !below[a][b] || about[2][a] < about[2][b], true);
             }
         }
-        CHECK.due(name + "chains", chains, width);
-        CHECK.due(name + "antichain 0", members[0], width);
-        CHECK.due(name + "antichain 1", members[1], width);
     }
 }

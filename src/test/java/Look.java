@@ -35,7 +35,8 @@ final class Look {
         for (int left = 0; left < lefts; left++) {
             for (int right = 0; right < rights; right++) {
                 if (bench.has(left, right)) {
-                    text.append(' ').append(left).append('-').append(right).append(':').append(bench.edgeIs(left, right));
+                    text.append(' ').append(left).append('-').append(right).append(':');
+                    text.append(bench.edgeIs(left, right));
                 }
             }
         }

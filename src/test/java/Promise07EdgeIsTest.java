@@ -1,4 +1,4 @@
-/** Promise 7, edgeIs(left, right): "2 it is in all GREATEST pairings, 1 in some, 0 in none. BAD: there is no such edge". */
+/** Promise 7, edgeIs(left, right): "2 it is in all .. pairings, 1 in some, 0 in none. BAD: there is no such edge". */
 public final class Promise07EdgeIsTest {
     private static final int BAD = PairBench.BAD;
 

@@ -1,4 +1,4 @@
-/** Promise 16, tell(a, b): "1 if that is new (it did not follow), else 0. BAD: no such things; NO: b is a, or BELOW it". */
+/** Promise 16, tell(a, b): "1 if that is new .., else 0. BAD: no such things; NO: b is a, or BELOW it". */
 public final class Promise16TellTest {
     private static final int BAD = PairBench.BAD;
     private static final int NO = PairBench.NO;

@@ -1,27 +1,41 @@
 import java.lang.management.ManagementFactory;
 
-/** What 512 calls make is little: the rows are made once and used again. */
+/** All calls of one run live in one room: 7.3 million fields and elements in all, so the rows are used again. */
 public final class RoomTest {
     private static final Check CHECK = new Check();
     private static final com.sun.management.ThreadMXBean METER =
             (com.sun.management.ThreadMXBean) ManagementFactory.getThreadMXBean();
+    /** The bytes of as many longs. */
+    private static final long ROOM = 8 * 7_300_000L;
 
     public static void main(String[] args) {
-        made();
-        made();
         long before = METER.getCurrentThreadAllocatedBytes();
-        new PairBench();
-        long object = METER.getCurrentThreadAllocatedBytes() - before;
-        CHECK.due("a new object takes " + object + " bytes", object < 20_000, true);
-        long run = made();
-        // 65,536 sets of taken nodes, once as a whole and once on the way there.
-        CHECK.due("a run takes " + run + " bytes", run < 1_200_000, true);
+        countAgainAndAgain();
+        room("pairings() again and again", before);
+        before = METER.getCurrentThreadAllocatedBytes();
+        askAboutAll();
+        room("questions of all kinds", before);
         CHECK.end("RoomTest");
     }
 
-    /** The bytes of a run that changes the graph and the things before each of the dearest questions. */
-    private static long made() {
-        long before = METER.getCurrentThreadAllocatedBytes();
+    private static void room(String run, long before) {
+        long made = METER.getCurrentThreadAllocatedBytes() - before;
+        CHECK.due(run + ": " + made + " bytes are in the room", made <= ROOM, true);
+    }
+
+    /** 65,536 sets of right nodes can be taken in a ring of 16 and 16, and it is counted anew 224 times. */
+    private static void countAgainAndAgain() {
+        PairBench bench = Build.lonePairs(16);
+        for (int i = 0; i < 16; i++) {
+            bench.edge(i, (i + 1) % 16, true);
+        }
+        for (int call = 64; call < 512; call += 2) {
+            bench.edge(0, 8, call % 4 == 0);
+            CHECK.due("pairings()", bench.pairings(), call % 4 == 0 ? 3 : 2);
+        }
+    }
+
+    private static void askAboutAll() {
         PairBench bench = new PairBench();
         for (int i = 0; i < 16; i++) {
             bench.node(0);
@@ -29,13 +43,13 @@ public final class RoomTest {
             bench.thing();
             bench.pairings();
         }
-        for (int i = 0; i < 75; i++) {
+        for (int i = 0; i < 74; i++) {
             bench.edge(i % 16, i * 7 % 16, true);
             bench.tell(i % 16, i * 5 % 16);
             bench.pairings();
             bench.about(i % 16, i % 5);
             bench.leads(0, 1);
+            bench.edgeIs(i % 16, i * 7 % 16);
         }
-        return METER.getCurrentThreadAllocatedBytes() - before;
     }
 }

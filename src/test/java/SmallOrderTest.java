@@ -8,12 +8,12 @@ public final class SmallOrderTest {
     public static void main(String[] args) {
         Random dice = new Random(4711);
         for (int round = 0; round < 3000; round++) {
-            PairBench bench = new PairBench();
+            Relay bench = new Relay();
             if (dice.nextInt(3) == 0) {
                 int before = dice.nextInt(6);
                 grow(bench, before, dice.nextInt(8), dice);
-                bench.count(10);
-                CHECK.due("clearThings", bench.clearThings(), before);
+                bench.ask().count(10);
+                CHECK.due("clearThings", bench.change(PairBench::clearThings), before);
             }
             int count = dice.nextInt(8);
             compare(bench, grow(bench, count, dice.nextInt(16), dice));
@@ -26,15 +26,15 @@ public final class SmallOrderTest {
 
     /** Changes one after the other on one object, all answers asked for after each. */
     private static void walk(Random dice) {
-        PairBench bench = new PairBench();
+        Relay bench = new Relay();
         boolean[][] below = new boolean[0][0];
         for (int step = 0; step < 30; step++) {
             int count = below.length;
             if (dice.nextInt(30) == 0) {
-                CHECK.due("walk clearThings", bench.clearThings(), count);
+                CHECK.due("walk clearThings", bench.change(PairBench::clearThings), count);
                 below = new boolean[0][0];
             } else if (count < 6 && dice.nextInt(3) == 0) {
-                CHECK.due("walk thing", bench.thing(), count);
+                CHECK.due("walk thing", bench.change(PairBench::thing), count);
                 boolean[][] more = new boolean[count + 1][count + 1];
                 for (int a = 0; a < count; a++) {
                     System.arraycopy(below[a], 0, more[a], 0, count);
@@ -47,7 +47,7 @@ public final class SmallOrderTest {
         }
     }
 
-    private static void tell(PairBench bench, boolean[][] below, int a, int b) {
+    private static void tell(Relay bench, boolean[][] below, int a, int b) {
         int want = a == b || below[b][a] ? PairBench.NO : below[a][b] ? 0 : 1;
         CHECK.due(Arrays.deepToString(below) + " tell(" + a + ", " + b + ")", bench.tell(a, b), want);
         if (want == 1) {
@@ -57,42 +57,42 @@ public final class SmallOrderTest {
     }
 
     /** Makes things and tells of them by chance; what is below what is followed up here in its own way. */
-    private static boolean[][] grow(PairBench bench, int count, int tells, Random dice) {
+    private static boolean[][] grow(Relay bench, int count, int tells, Random dice) {
         boolean[][] below = new boolean[count][count];
         for (int i = 0; i < count; i++) {
-            CHECK.due("thing", bench.thing(), i);
+            CHECK.due("thing", bench.change(PairBench::thing), i);
         }
         for (int i = 0; i < tells && count > 0; i++) {
             int a = dice.nextInt(count);
             tell(bench, below, a, dice.nextInt(count));
             if (dice.nextInt(4) == 0) {
-                bench.about(a, dice.nextInt(5));
+                bench.ask().about(a, dice.nextInt(5));
             }
         }
         return below;
     }
 
-    private static void compare(PairBench bench, boolean[][] below) {
+    private static void compare(Relay bench, boolean[][] below) {
         int count = below.length;
         String name = "order " + Arrays.deepToString(below) + " ";
         int[] next = new Brute(below, count, count).best();
         int width = width(below);
-        CHECK.due(name + "count(9)", bench.count(9), count);
-        CHECK.due(name + "count(10)", bench.count(10), width);
+        CHECK.due(name + "count(9)", bench.ask().count(9), count);
+        CHECK.due(name + "count(10)", bench.ask().count(10), width);
         int levels = 0;
         for (int a = 0; a < count; a++) {
             int level = level(below, a);
             levels = Math.max(levels, level + 1);
-            CHECK.due(name + "about(" + a + ", 0)", bench.about(a, 0), chain(next, a));
-            CHECK.due(name + "about(" + a + ", 1)", bench.about(a, 1), next[a]);
-            CHECK.due(name + "about(" + a + ", 2)", bench.about(a, 2), level);
-            CHECK.due(name + "about(" + a + ", 3)", bench.about(a, 3), antichain(below, width, 0) >> a & 1);
-            CHECK.due(name + "about(" + a + ", 4)", bench.about(a, 4), antichain(below, width, 1) >> a & 1);
+            CHECK.due(name + "about(" + a + ", 0)", bench.ask().about(a, 0), chain(next, a));
+            CHECK.due(name + "about(" + a + ", 1)", bench.ask().about(a, 1), next[a]);
+            CHECK.due(name + "about(" + a + ", 2)", bench.ask().about(a, 2), level);
+            CHECK.due(name + "about(" + a + ", 3)", bench.ask().about(a, 3), antichain(below, width, 0) >> a & 1);
+            CHECK.due(name + "about(" + a + ", 4)", bench.ask().about(a, 4), antichain(below, width, 1) >> a & 1);
             for (int b = 0; b < count; b++) {
-                CHECK.due(name + "below(" + a + ", " + b + ")", bench.below(a, b), below[a][b]);
+                CHECK.due(name + "below(" + a + ", " + b + ")", bench.ask().below(a, b), below[a][b]);
             }
         }
-        CHECK.due(name + "count(11)", bench.count(11), levels);
+        CHECK.due(name + "count(11)", bench.ask().count(11), levels);
     }
 
     private static boolean isAntichain(boolean[][] below, int set) {

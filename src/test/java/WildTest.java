@@ -3,24 +3,33 @@ import java.util.Random;
 /** No call throws, whatever its arguments and however the object was used before. */
 public final class WildTest {
     private static final Check CHECK = new Check();
-    private static final int[] ODD = {-1, -2, -3, -64, Integer.MIN_VALUE, Integer.MAX_VALUE, 16, 17, 40, 49, 50, 63, 64};
+    private static final int[] ODD =
+        {-1, -2, -3, -64, Integer.MIN_VALUE, Integer.MAX_VALUE, 16, 17, 40, 49, 50, 63, 64};
 
     public static void main(String[] args) {
         Random dice = new Random(7);
         for (int round = 0; round < 400; round++) {
-            PairBench bench = new PairBench();
-            int span = 1 + dice.nextInt(60);
-            String last = "";
-            try {
-                for (int i = 0; i < 512; i++) {
-                    last = call(bench, dice, span);
-                }
-                CHECK.due("round " + round, true, true);
-            } catch (RuntimeException thrown) {
-                CHECK.due("round " + round + " after " + last + ": " + thrown, false, true);
-            }
+            run("round " + round, 512, dice);
+        }
+        // What later calls answer is free, but no call may ever throw.
+        for (int round = 0; round < 20; round++) {
+            run("long round " + round, 2000, dice);
         }
         CHECK.end("WildTest");
+    }
+
+    private static void run(String name, int calls, Random dice) {
+        PairBench bench = new PairBench();
+        int span = 1 + dice.nextInt(60);
+        String last = "";
+        try {
+            for (int i = 0; i < calls; i++) {
+                last = call(bench, dice, span);
+            }
+            CHECK.due(name, true, true);
+        } catch (RuntimeException thrown) {
+            CHECK.due(name + " after " + last + ": " + thrown, false, true);
+        }
     }
 
     private static int number(Random dice, int span) {

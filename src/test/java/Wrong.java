@@ -14,8 +14,8 @@ final class Wrong {
      */
     static int[] beside(int end) {
         int last = end - 1;
-        return IntStream.of(-1, -2, end, end + 1, 32 + last, 63, 64, 64 + last, -64, -64 + last, 256, 65536, 65536 + last,
-                -last - 1, Integer.MAX_VALUE, Integer.MIN_VALUE, Integer.MIN_VALUE + last)
+        return IntStream.of(-1, -2, -end, end, end + 1, 32 + last, 63, 64, 64 + last, -64, -64 + last, 256, 65536,
+                65536 + last, Integer.MAX_VALUE, Integer.MIN_VALUE, Integer.MIN_VALUE + last)
                 .filter(number -> number < 0 || number >= end)
                 .distinct()
                 .toArray();
