@@ -79,6 +79,12 @@ public final class Promise06PartnerTest {
         partners(check, "left 2 has 0 alone", bench, 0, 1, 2, 0);
     }
 
+    static void promise06LesserPartnerThoughTheNextGoesWithout(Check check) {
+        PairBench bench = Build.graph(4, 3, 0, 1, 0, 2, 1, 1, 2, 0, 2, 2, 3, 0);
+        partners(check, "left 0 takes 1 from left 1, left 3 comes in", bench, 0, 1, NO, 2, 0);
+        partners(check, "left 0 takes 1 from left 1, left 3 comes in", bench, 1, 3, 0, 2);
+    }
+
     static void promise06OneWithAPartnerIsBetter(Check check) {
         partners(check, "three for two", Build.complete(3, 2), 0, 0, 1, NO);
         PairBench bench = Build.graph(3, 2, 0, 1, 1, 0, 1, 1, 2, 0);

@@ -5,7 +5,9 @@ public final class SmallGraphTest {
     private static final Check CHECK = new Check();
 
     public static void main(String[] args) {
-        allGraphsOfThreeAndThree();
+        allGraphs(3, 3);
+        allGraphs(4, 3);
+        allGraphs(3, 4);
         Random dice = new Random(20261115);
         for (int round = 0; round < 2500; round++) {
             int lefts = dice.nextInt(7);
@@ -19,14 +21,14 @@ public final class SmallGraphTest {
             }
             compare(edges, lefts, rights, dice);
         }
-        for (int round = 0; round < 100; round++) {
-            walk(dice);
+        for (int round = 0; round < 200; round++) {
+            walk(1 + round % 4, dice);
         }
         CHECK.end("SmallGraphTest");
     }
 
-    /** Changes one after the other on one object, all answers asked for after each. */
-    private static void walk(Random dice) {
+    /** Changes one after the other on one object, all answers asked for after each few. */
+    private static void walk(int often, Random dice) {
         Relay bench = new Relay();
         boolean[][] edges = new boolean[5][5];
         int[] sizes = new int[2];
@@ -45,17 +47,19 @@ public final class SmallGraphTest {
                 edges[l][r] = dice.nextInt(3) > 0;
                 bench.edge(l, r, edges[l][r]);
             }
-            compareAll(bench, edges, sizes[0], sizes[1]);
+            if (step % often == 0) {
+                compareAll(bench, edges, sizes[0], sizes[1]);
+            }
         }
     }
 
-    private static void allGraphsOfThreeAndThree() {
-        for (int code = 0; code < 512; code++) {
-            boolean[][] edges = new boolean[3][3];
-            for (int i = 0; i < 9; i++) {
-                edges[i / 3][i % 3] = (code >> i & 1) != 0;
+    private static void allGraphs(int lefts, int rights) {
+        for (int code = 0; code < 1 << lefts * rights; code++) {
+            boolean[][] edges = new boolean[lefts][rights];
+            for (int i = 0; i < lefts * rights; i++) {
+                edges[i / rights][i % rights] = (code >> i & 1) != 0;
             }
-            compare(edges, 3, 3, new Random(code));
+            compare(edges, lefts, rights, new Random(code));
         }
     }
 

@@ -18,14 +18,14 @@ public final class SmallOrderTest {
             int count = dice.nextInt(8);
             compare(bench, grow(bench, count, dice.nextInt(16), dice));
         }
-        for (int round = 0; round < 100; round++) {
-            walk(dice);
+        for (int round = 0; round < 200; round++) {
+            walk(1 + round % 4, dice);
         }
         CHECK.end("SmallOrderTest");
     }
 
-    /** Changes one after the other on one object, all answers asked for after each. */
-    private static void walk(Random dice) {
+    /** Changes one after the other on one object, all answers asked for after each few. */
+    private static void walk(int often, Random dice) {
         Relay bench = new Relay();
         boolean[][] below = new boolean[0][0];
         for (int step = 0; step < 30; step++) {
@@ -43,7 +43,9 @@ public final class SmallOrderTest {
             } else if (count > 0) {
                 tell(bench, below, dice.nextInt(count), dice.nextInt(count));
             }
-            compare(bench, below);
+            if (step % often == 0) {
+                compare(bench, below);
+            }
         }
     }
 
