@@ -230,4 +230,31 @@ final class Brute {
         }
         return numbers;
     }
+
+    /** How many things the longest way down from a thing has; known ones are kept, one higher. */
+    static int level(boolean[][] below, int thing, int[] known) {
+        if (known[thing] == 0) {
+            int most = 0;
+            for (int a = 0; a < below.length; a++) {
+                if (below[a][thing]) {
+                    most = Math.max(most, level(below, a, known) + 1);
+                }
+            }
+            known[thing] = most + 1;
+        }
+        return known[thing] - 1;
+    }
+
+    /** How many chains begin at things of lesser numbers than the first one of a thing's chain. */
+    static int chain(int[] next, int thing) {
+        int first = thing;
+        for (int before = leftOf(next, first); before >= 0; before = leftOf(next, first)) {
+            first = before;
+        }
+        int number = 0;
+        for (int other = 0; other < first; other++) {
+            number += leftOf(next, other) < 0 ? 1 : 0;
+        }
+        return number;
+    }
 }

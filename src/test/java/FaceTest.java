@@ -1,87 +1,105 @@
 import java.lang.reflect.Constructor;
 import java.lang.reflect.Field;
-import java.lang.reflect.Member;
 import java.lang.reflect.Method;
 import java.lang.reflect.Modifier;
+import java.util.Arrays;
 import java.util.Set;
 import java.util.TreeSet;
+import java.util.stream.Collectors;
 
-/** The class has the face of the document and no other. */
+/** The class has the face of the document, member by member, and nothing else that can be seen. */
 public final class FaceTest {
     private static final Check CHECK = new Check();
+    private static final Set<String> FACE = new TreeSet<>(Set.of(
+            "public static final int BAD = -1",
+            "public static final int FULL = -2",
+            "public static final int NO = -3",
+            "public PairBench()",
+            "public int node(int)",
+            "public int edge(int, int, boolean)",
+            "public int count(int)",
+            "public boolean has(int, int)",
+            "public int partner(int, int)",
+            "public int edgeIs(int, int)",
+            "public int nodeIs(int, int)",
+            "public int cover(int, int, int)",
+            "public int hall(int, int)",
+            "public int part(int, int)",
+            "public int block(int, int)",
+            "public int leads(int, int)",
+            "public long pairings()",
+            "public int thing()",
+            "public int tell(int, int)",
+            "public boolean below(int, int)",
+            "public int about(int, int)",
+            "public int clearGraph()",
+            "public int clearThings()"));
 
-    public static void main(String[] args) {
-        constants();
-        methods();
-        nothingElseIsSeen();
+    public static void main(String[] args) throws IllegalAccessException {
+        theClass();
+        CHECK.due("all that is not private", seen().toString(), FACE.toString());
+        noPrivateMethodWithAPublicName();
+        classesInside();
         CHECK.end("FaceTest");
     }
 
-    private static void constants() {
-        CHECK.due("BAD", PairBench.BAD, -1);
-        CHECK.due("FULL", PairBench.FULL, -2);
-        CHECK.due("NO", PairBench.NO, -3);
-        int seen = 0;
-        for (Field field : PairBench.class.getDeclaredFields()) {
-            seen += Modifier.isPublic(field.getModifiers()) ? 1 : 0;
-            boolean changing = Modifier.isStatic(field.getModifiers()) && !Modifier.isFinal(field.getModifiers());
-            CHECK.due("static state " + field, changing, false);
-        }
-        CHECK.due("public fields", seen, 3);
+    private static void theClass() {
+        CHECK.due("the class", PairBench.class.toGenericString(), "public final class PairBench");
+        CHECK.due("above it", PairBench.class.getSuperclass().getName(), "java.lang.Object");
+        CHECK.due("interfaces", PairBench.class.getInterfaces().length, 0);
+        CHECK.due("package", PairBench.class.getPackageName(), "");
     }
 
-    private static void methods() {
-        Set<String> want = Set.of("int node(int)", "int edge(int,int,boolean)", "int count(int)",
-                "boolean has(int,int)", "int partner(int,int)", "int edgeIs(int,int)", "int nodeIs(int,int)",
-                "int cover(int,int,int)", "int hall(int,int)", "int part(int,int)", "int block(int,int)",
-                "int leads(int,int)", "long pairings()", "int thing()", "int tell(int,int)", "boolean below(int,int)",
-                "int about(int,int)", "int clearGraph()", "int clearThings()");
-        Set<String> got = new TreeSet<>();
-        Set<String> open = new TreeSet<>();
-        for (Method method : PairBench.class.getDeclaredMethods()) {
-            if (Modifier.isPublic(method.getModifiers())) {
-                got.add(textOf(method));
-                open.add(method.getName());
+    private static Set<String> seen() throws IllegalAccessException {
+        Set<String> seen = new TreeSet<>();
+        for (Field field : PairBench.class.getDeclaredFields()) {
+            if (!Modifier.isPrivate(field.getModifiers())) {
+                String value = Modifier.isStatic(field.getModifiers()) ? " = " + field.get(null) : "";
+                seen.add(how(field.getModifiers()) + field.getType() + " " + field.getName() + value);
             }
         }
-        CHECK.due("the public methods " + got, got.equals(want), true);
+        for (Constructor<?> made : PairBench.class.getDeclaredConstructors()) {
+            if (!Modifier.isPrivate(made.getModifiers())) {
+                seen.add(how(made.getModifiers()) + made.getName() + ends(made.getParameterTypes())
+                        + thrown(made.getExceptionTypes()));
+            }
+        }
+        for (Method method : PairBench.class.getDeclaredMethods()) {
+            if (!Modifier.isPrivate(method.getModifiers())) {
+                seen.add(how(method.getModifiers()) + method.getReturnType() + " " + method.getName()
+                        + ends(method.getParameterTypes()) + thrown(method.getExceptionTypes()));
+            }
+        }
+        return seen;
+    }
+
+    private static String how(int modifiers) {
+        return modifiers == 0 ? "" : Modifier.toString(modifiers) + " ";
+    }
+
+    private static String ends(Class<?>[] types) {
+        return Arrays.stream(types).map(Class::toString).collect(Collectors.joining(", ", "(", ")"));
+    }
+
+    private static String thrown(Class<?>[] types) {
+        return types.length == 0 ? "" : " throws " + Arrays.toString(types);
+    }
+
+    private static void noPrivateMethodWithAPublicName() {
         for (Method method : PairBench.class.getDeclaredMethods()) {
             if (Modifier.isPrivate(method.getModifiers())) {
-                CHECK.due("private with a public name " + method, open.contains(method.getName()), false);
+                String start = " " + method.getName() + "(";
+                boolean open = FACE.stream().anyMatch(member -> member.contains(start));
+                CHECK.due("private with a public name " + method, open, false);
             }
         }
-        CHECK.due("public and final", Modifier.isPublic(PairBench.class.getModifiers())
-                && Modifier.isFinal(PairBench.class.getModifiers()), true);
     }
 
-    private static String textOf(Method method) {
-        StringBuilder text = new StringBuilder(method.getReturnType() + " " + method.getName() + "(");
-        for (Class<?> type : method.getParameterTypes()) {
-            text.append(text.charAt(text.length() - 1) == '(' ? "" : ",").append(type);
-        }
-        return text.append(")").toString();
-    }
-
-    private static void nothingElseIsSeen() {
-        Constructor<?>[] made = PairBench.class.getDeclaredConstructors();
-        CHECK.due("constructors", made.length, 1);
-        CHECK.due("constructor's parameters", made[0].getParameterCount(), 0);
-        CHECK.due("constructor is public", Modifier.isPublic(made[0].getModifiers()), true);
-        for (Field field : PairBench.class.getDeclaredFields()) {
-            publicOrPrivate(field);
-        }
-        for (Method method : PairBench.class.getDeclaredMethods()) {
-            publicOrPrivate(method);
-        }
+    private static void classesInside() {
         for (Class<?> inside : PairBench.class.getDeclaredClasses()) {
             int how = inside.getModifiers();
             boolean hidden = !Modifier.isPublic(how) && !Modifier.isProtected(how) && Modifier.isStatic(how);
             CHECK.due("hidden and static " + inside, hidden, true);
         }
-    }
-
-    private static void publicOrPrivate(Member member) {
-        int how = member.getModifiers();
-        CHECK.due("public or private " + member, Modifier.isPublic(how) || Modifier.isPrivate(how), true);
     }
 }

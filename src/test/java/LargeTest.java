@@ -98,7 +98,29 @@ public final class LargeTest {
             cover(name, bench, which, edges, size);
             hall(name, bench, which, edges, size);
         }
+        for (int node = 0; node < Math.max(lefts, rights); node++) {
+            if (node < lefts) {
+                sets(name, bench, slow, size, 0, node);
+            }
+            if (node < rights) {
+                sets(name, bench, slow, size, 1, node);
+            }
+        }
         blocks(name, bench, edges, best);
+    }
+
+    /** Which part, covers and halls a node is in. */
+    private static void sets(String name, Relay bench, Slow slow, int size, int side, int node) {
+        String of = side + ", " + node + ")";
+        CHECK.due(name + "part(" + of, bench.ask().part(side, node), slow.part(side, node, size));
+        for (int which = 0; which <= 1; which++) {
+            int covered = slow.isInCover(which, side, node, size) ? 1 : 0;
+            CHECK.due(name + "cover(" + which + ", " + of, bench.ask().cover(which, side, node), covered);
+            if (side == 0) {
+                int lacking = slow.isInHall(which, node, size) ? 1 : 0;
+                CHECK.due(name + "hall(" + which + ", " + node + ")", bench.ask().hall(which, node), lacking);
+            }
+        }
     }
 
     private static int sum(int[] row) {
@@ -229,6 +251,26 @@ public final class LargeTest {
         CHECK.due(name + "antichain 0", sum(about[3]), width);
         CHECK.due(name + "antichain 1", sum(about[4]), width);
         twoByTwo(name, bench, below, about);
+        int most = 0;
+        for (int a = 0; a < count; a++) {
+            int level = Brute.level(below, a, new int[count]);
+            most = Math.max(most, level + 1);
+            CHECK.due(name + "level of " + a, about[2][a], level);
+            CHECK.due(name + "chain of " + a, about[0][a], Brute.chain(best, a));
+            CHECK.due(name + a + " is in antichain 0", about[3][a], isLast(below, slow, width, a, 0) ? 1 : 0);
+            CHECK.due(name + a + " is in antichain 1", about[4][a], isLast(below, slow, width, a, 1) ? 1 : 0);
+        }
+        CHECK.due(name + "levels", bench.ask().count(11), most);
+    }
+
+    /** Whether a thing is in some greatest antichain, and none that is below it (0) or above it (1) is. */
+    private static boolean isLast(boolean[][] below, Slow slow, int width, int thing, int which) {
+        boolean last = slow.isInSomeAntichain(thing, width);
+        for (int other = 0; other < below.length && last; other++) {
+            boolean beyond = which == 0 ? below[other][thing] : below[thing][other];
+            last = !beyond || !slow.isInSomeAntichain(other, width);
+        }
+        return last;
     }
 
     private static void twoByTwo(String name, Relay bench, boolean[][] below, int[][] about) {

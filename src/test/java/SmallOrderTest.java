@@ -83,9 +83,9 @@ public final class SmallOrderTest {
         CHECK.due(name + "count(10)", bench.ask().count(10), width);
         int levels = 0;
         for (int a = 0; a < count; a++) {
-            int level = level(below, a);
+            int level = Brute.level(below, a, new int[count]);
             levels = Math.max(levels, level + 1);
-            CHECK.due(name + "about(" + a + ", 0)", bench.ask().about(a, 0), chain(next, a));
+            CHECK.due(name + "about(" + a + ", 0)", bench.ask().about(a, 0), Brute.chain(next, a));
             CHECK.due(name + "about(" + a + ", 1)", bench.ask().about(a, 1), next[a]);
             CHECK.due(name + "about(" + a + ", 2)", bench.ask().about(a, 2), level);
             CHECK.due(name + "about(" + a + ", 3)", bench.ask().about(a, 3), antichain(below, width, 0) >> a & 1);
@@ -148,27 +148,5 @@ public final class SmallOrderTest {
             }
         }
         return true;
-    }
-
-    private static int level(boolean[][] below, int thing) {
-        int most = 0;
-        for (int a = 0; a < below.length; a++) {
-            if (below[a][thing]) {
-                most = Math.max(most, level(below, a) + 1);
-            }
-        }
-        return most;
-    }
-
-    private static int chain(int[] next, int thing) {
-        int first = thing;
-        for (int before = Brute.leftOf(next, first); before >= 0; before = Brute.leftOf(next, first)) {
-            first = before;
-        }
-        int number = 0;
-        for (int other = 0; other < first; other++) {
-            number += Brute.leftOf(next, other) < 0 ? 1 : 0;
-        }
-        return number;
     }
 }
