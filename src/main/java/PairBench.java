@@ -590,7 +590,9 @@ public final class PairBench {
         /** For a left node of part 1, the left nodes that can be come to from it, itself too. */
         private final long[] reached;
         private final int[] numbers;
+        /** For a block, its left nodes, and all left nodes that can be come to from it. */
         private final long[] lefts;
+        private final long[] onward;
         private int size;
         private int known;
 
@@ -600,6 +602,7 @@ public final class PairBench {
             reached = new long[MOST_NODES];
             numbers = new int[MOST_NODES];
             lefts = new long[MOST_NODES];
+            onward = new long[MOST_NODES];
             size = 0;
             known = -1;
         }
@@ -630,7 +633,7 @@ public final class PairBench {
             if (from == to || !holds(from) || !holds(to)) {
                 return false;
             }
-            return (reached[lowest(lefts[from])] & lefts[to]) != 0;
+            return (onward[from] & lefts[to]) != 0;
         }
 
         /** Whether a left node of part 1 is alone with its partner in its block. */
@@ -672,6 +675,7 @@ public final class PairBench {
             for (int first = 0; first < graph.sizeOf(LEFT); first++) {
                 if (contains(inner, first) && numbers[first] == NO && size < lefts.length) {
                     lefts[size] = gather(first);
+                    onward[size] = reached[first];
                     size++;
                 }
             }
